@@ -1734,8 +1734,9 @@ public final class PostFrame {
 
         private void describe(int place) {
             int code = work.row[place];
-            int hole = chart.holeFor(code);
-            boolean goes = shape.hasHole(hole);
+            int entry = chart.entryFor(code);
+            boolean goes = entry != NONE;
+            int hole = goes ? work.plan.hole[entry] : LOST;
             words[PLACE] = place;
             words[CODE] = code;
             words[FIRST] = shape.digitOf(code, 0);
@@ -1743,7 +1744,7 @@ public final class PostFrame {
             words[HOLE] = hole;
             words[LYING] = goes ? work.lying[hole] : 0;
             words[ROOM] = goes ? shape.room[hole] : 0;
-            words[FIT] = goes ? chart.digitsFor(code) : 0;
+            words[FIT] = goes ? work.plan.digits[entry] : 0;
         }
 
         /** Once none waits, nothing but the TURN would change. */

@@ -133,6 +133,21 @@ public final class RunsTest {
     }
   }
 
+  /** The same again and again, so that limits are met. */
+  private void burst() {
+    int kind = random.nextInt(6);
+    int times = 5 + random.nextInt(20);
+    for (int i = 0; i < times && !wrong; i++) {
+      switch (kind) {
+        case 0, 1 -> call("turn");
+        case 2 -> call("post", pick(codesMost()));
+        case 3 -> call("undo");
+        case 4 -> call("note", chance(90) ? 0 : pick(60), hole(), chance(90) ? 0 : pick(20));
+        default -> call("enter", model.count(1), pick(codesMost()), hole());
+      }
+    }
+  }
+
   private void askPlan() {
     switch (random.nextInt(12)) {
       case 0 -> call("where", pick(codesMost()), pick(1));
@@ -176,7 +191,7 @@ public final class RunsTest {
       case 2 -> call("waits", pick(19));
       case 3 -> call("count", pick(14));
       case 4 -> call("force", chance(30) ? -1 : pick(5));
-      default -> call(chance(50) ? "image" : "back", pick(3));
+      default -> call(chance(40) ? "image" : "back", pick(chance(60) ? 0 : 3));
     }
   }
 
@@ -199,6 +214,7 @@ public final class RunsTest {
       if (kind < 3) tellFrame();
       else if (kind < 7) tellRule();
       else if (kind < 8) tell(texts.rule());
+      else if (kind < 10) burst();
       else if (kind < 45) act();
       else if (kind < 70) askPlan();
       else if (kind < 88) askOn();
