@@ -1547,41 +1547,26 @@ public final class PostFrame {
             return bits;
         }
 
+        /** A digit that can send it elsewhere must be read, whatever else is; no other one must. */
         int setToRead() {
-            int smudged = 0;
+            int set = 0;
             for (int place = 0; place < shape.digits; place++) {
-                if (mark[place] == SMUDGED) {
-                    smudged |= 1 << place;
+                if (mark[place] == SMUDGED && decides(place)) {
+                    set |= 1 << place;
                 }
             }
-            int best = smudged;
-            for (int set = 0; set < smudged; set++) {
-                boolean fewer = Integer.bitCount(set) < Integer.bitCount(best);
-                if (fewer && (set & smudged) == set && decides(set, smudged)) {
-                    best = set;
-                }
-            }
-            return best;
+            return set;
         }
 
-        /** CODES alike in the digits read GO as the one of them with 0 in place of the others. */
-        private boolean decides(int set, int smudged) {
+        private boolean decides(int place) {
+            int span = shape.spanOf(place + 1);
             for (int code = 0; code < shape.codes; code++) {
-                if (isMeant(code) && holeFor(code) != holeFor(blotted(code, smudged & ~set))) {
-                    return false;
+                int withZero = code - shape.digitOf(code, place) * span;
+                if (isMeant(code) && holeFor(code) != holeFor(withZero)) {
+                    return true;
                 }
             }
-            return true;
-        }
-
-        private int blotted(int code, int places) {
-            int blotted = code;
-            for (int place = 0; place < shape.digits; place++) {
-                if ((places >> place & 1) != 0) {
-                    blotted -= shape.digitOf(code, place) * shape.spanOf(place + 1);
-                }
-            }
-            return blotted;
+            return false;
         }
 
         int slipsOf(int code) {

@@ -28,6 +28,8 @@ public final class FaultsTest {
     frame("   ", 3, 0);
     frame("frame", 5, 0);
     frame("frames 2 1 1", 0, 0);
+    frame("framea 2 1 1", 0, 0);
+    frame("framez 2 1 1", 0, 0);
     frame("Frame 2 1 1", 0, 0);
     frame("fram 2 1 1", 0, 0);
     frame("2 1 1", 0, 0);
@@ -112,6 +114,8 @@ public final class FaultsTest {
     rule("take x", 5, 0);
     rule("take take", 5, 0);
     rule("take codes", 5, 0);
+    rule("take codea", 5, 0);
+    rule("take codez", 5, 0);
     rule("take 123456", 5, 1);
     rule("take 1;", 7, 0);
     rule("take 1;;take 1", 7, 0);

@@ -515,6 +515,7 @@ public final class PromisesTest {
     due("one for all", leastOf("frame 2 2 2;plan 2 0 1;plan 2 1 1;plan 2 2 1;plan 2 3 1"), 1);
     due("one and one beside it", leastOf("frame 2 2 2;plan 2 0 0;plan 2 1 0;plan 2 2 0;plan 2 3 1"), 2);
     due("none over a lost one", leastOf("frame 2 2 2;plan 2 0 0;plan 2 1 0;plan 2 2 0"), 2);
+    due("none over lost ones, of all holes", leastOf("frame 4 2 6;plan 1 0 0;plan 1 1 0;plan 1 2 0"), 3);
     due("an idle one", leastOf("frame 2 2 2;plan 0 0 0;plan 1 0 0;plan 2 0 0"), 1);
     due("what is most often", leastOf("frame 3 1 3;plan 1 0 2;plan 1 1 1;plan 1 2 1"), 2);
     due("two by two", leastOf("frame 2 2 2;plan 2 0 0;plan 2 1 1;plan 2 2 0;plan 2 3 1"), 3);
