@@ -450,7 +450,7 @@ public final class PostFrame {
             return NONE;
         }
         startFromNow();
-        return runner.turnsUntilEmpty(ruleInForce());
+        return runner.turnOfSorting(ruleInForce());
     }
 
     public int tied(int hole) {
@@ -458,7 +458,7 @@ public final class PostFrame {
             return NONE;
         }
         startFromNow();
-        return runner.turnsUntilTied(ruleInForce(), hole, SEEN_TURNS);
+        return runner.turnOfTying(ruleInForce(), hole, SEEN_TURNS);
     }
 
     public int enough(int hole, int n) {
@@ -469,7 +469,7 @@ public final class PostFrame {
         for (int room = 1; room <= ROOM_MOST; room++) {
             runner.work.copyFrom(desk.now);
             runner.shape.room[hole] = room;
-            if (runner.turnsUntilTied(ruleInForce(), hole, n) == MISSING) {
+            if (runner.turnOfTying(ruleInForce(), hole, n) == MISSING) {
                 return room;
             }
         }
@@ -564,7 +564,7 @@ public final class PostFrame {
             runner.work.copyFrom(desk.begin);
             if (runner.agrees(desk, ruleAt(rule))) {
                 runner.work.copyFrom(desk.begin);
-                runner.steps(ruleAt(rule), n);
+                runner.steps(ruleAt(rule), n + 1);
                 advice.addSight(runner.work.lying);
             }
         }
@@ -1422,7 +1422,7 @@ public final class PostFrame {
         }
 
         int lastNotedTurn() {
-            int last = 0;
+            int last = NONE;
             for (int i = 0; i < notes; i++) {
                 last = Math.max(last, noteTurn[i]);
             }
@@ -1739,21 +1739,23 @@ public final class PostFrame {
             }
         }
 
-        int turnsUntilEmpty(Rule rule) {
-            for (int i = 1; i <= SEEN_TURNS; i++) {
+        int turnOfSorting(Rule rule) {
+            for (int i = 0; i < SEEN_TURNS; i++) {
+                int turn = work.turn;
                 step(rule);
                 if (work.waiting == 0) {
-                    return i;
+                    return turn;
                 }
             }
             return MISSING;
         }
 
-        int turnsUntilTied(Rule rule, int hole, int turns) {
-            for (int i = 1; i <= turns && work.waiting > 0; i++) {
+        int turnOfTying(Rule rule, int hole, int turns) {
+            for (int i = 0; i < turns && work.waiting > 0; i++) {
+                int turn = work.turn;
                 step(rule);
                 if (justTied == hole) {
-                    return i;
+                    return turn;
                 }
             }
             return MISSING;
@@ -1762,11 +1764,11 @@ public final class PostFrame {
         /** Whether all NOTES are so, if it goes on from TURN 0 as the copy is. */
         boolean agrees(Desk desk, Rule rule) {
             int last = desk.lastNotedTurn();
-            for (int turn = 0; turn < last && work.waiting > 0; turn++) {
+            for (int turn = 0; turn <= last && work.waiting > 0; turn++) {
+                step(rule);
                 if (!desk.notesHold(turn, turn, work.lying)) {
                     return false;
                 }
-                step(rule);
             }
             return desk.notesHold(work.turn, NOTE_TURN_MOST, work.lying);
         }

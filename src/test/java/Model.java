@@ -776,17 +776,17 @@ final class Model {
   int sorted() {
     if (told == null) return -1;
     State s = now.copy();
-    for (int i = 1; i <= 200; i++) {
+    for (int i = 0; i < 200; i++) {
       go(s, told.room, ruleOf(inForce));
-      if (s.row.isEmpty()) return i;
+      if (s.row.isEmpty()) return now.turn + i;
     }
     return -2;
   }
 
   private int firstTied(int hole, int[] room, int turns) {
     State s = now.copy();
-    for (int i = 1; i <= turns; i++) {
-      if (go(s, room, ruleOf(inForce))[1] == hole) return i;
+    for (int i = 0; i < turns; i++) {
+      if (go(s, room, ruleOf(inForce))[1] == hole) return now.turn + i;
     }
     return -2;
   }
@@ -806,12 +806,11 @@ final class Model {
 
   // ---------------------------------------------------------------- what can have been
 
-  /** What lay in the HOLES behind each of 60 TURNS from a begin on. */
+  /** What lay in the HOLES behind each of the TURNS 0 to 60 from a begin on. */
   private int[][] history(State begin, List<Clause> rule) {
     int[][] h = new int[61][];
     State s = begin.copy();
-    h[0] = s.lying.clone();
-    for (int i = 1; i <= 60; i++) {
+    for (int i = 0; i <= 60; i++) {
       go(s, told.room, rule);
       h[i] = s.lying.clone();
     }

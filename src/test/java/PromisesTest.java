@@ -588,30 +588,36 @@ public final class PromisesTest {
   private static void sorted() {
     CHECK.part("promises 27 and 28, sorted and tied");
     PostFrame x = small();
-    due("sorted", x.sorted(), 5);
+    due("sorted", x.sorted(), 4);
     due("tied", x.tied(0), -2);
     x.post(1);
-    due("sorted", x.sorted(), 6);
-    due("tied", x.tied(0), 6);
+    due("sorted", x.sorted(), 5);
+    due("tied", x.tied(0), 5);
     due("tied", x.tied(1), -2);
     due("tied", x.tied(2), NONE);
     due("tied", x.tied(-1), NONE);
-    for (int i = 0; i < 5; i++) x.turn();
-    due("sorted", x.sorted(), 1);
-    due("tied", x.tied(0), 1);
+    for (int i = 0; i < 5; i++) {
+      x.turn();
+      due("the same TURN from one later on", x.sorted(), 5);
+      due("the same TURN from one later on", x.tied(0), 5);
+    }
     x.turn();
-    due("sorted, if none waits", x.sorted(), 1);
+    due("sorted, if none waits", x.sorted(), 6);
     due("tied", x.tied(0), -2);
     due("never sorted", ruled("take code").sorted(), -2);
-    due("late", ruled("take 1 if turn > 194").sorted(), 200);
+    due("late", ruled("take 1 if turn > 194").sorted(), 199);
     due("too late", ruled("take 1 if turn > 195").sorted(), -2);
     PostFrame y = Check.framed("frame 2 1 1;room 0 1;plan 0 0 0;letter 0;letter 0");
     Check.rule(y, "take 1 if turn = 0 or turn >= 199");
     y.force(0);
-    due("tied in the last", y.tied(0), 200);
+    due("tied in the last", y.tied(0), 199);
     Check.rule(y, "take 1 if turn = 0 or turn >= 200");
     y.force(1);
     due("tied behind the last", y.tied(0), -2);
+    y.turn();
+    due("one TURN later it is in sight", y.tied(0), 200);
+    due("and sorted", y.sorted(), 200);
+    due("none waits and it is TURN 0", Check.framed("frame 2 1 1").sorted(), 0);
   }
 
   private static void enough() {
@@ -640,14 +646,14 @@ public final class PromisesTest {
     PostFrame x = small();
     due("without notes", x.said(0, 0), 8);
     due("without notes", x.said(4, 1), 0);
-    x.note(1, 0, 0);
+    x.note(0, 0, 0);
     due("not into 0", x.said(0, 0), 6);
     due("not into 0", x.said(0, 1), 2);
     due("of another", x.said(1, 0), 0);
     due("of another", x.said(1, 1), -2);
     x.note(NONE, 0, 0);
-    x.note(1, 0, 1);
-    x.note(3, 1, 1);
+    x.note(0, 0, 1);
+    x.note(2, 1, 1);
     due("the first", x.said(0, 0), 0);
     due("the second", x.said(1, 0), 5);
     due("the second", x.said(1, 1), 0);
@@ -662,7 +668,7 @@ public final class PromisesTest {
     due("as the text told it", x.said(1, 0), 5);
     due("of posted ones", x.said(5, 0), NONE);
     PostFrame y = ruled("take code + 1");
-    y.note(1, 1, 1);
+    y.note(0, 1, 1);
     due("by the rule", y.said(2, 0), 1);
     due("by the rule", y.said(2, 1), 7);
     due("by the rule", y.said(4, 0), 8);
@@ -675,10 +681,10 @@ public final class PromisesTest {
     CHECK.part("promise 31, sent");
     PostFrame x = small();
     for (int e = 0; e < 3; e++) due("without notes", x.sent(e), 3);
-    x.note(1, 0, 1);
+    x.note(0, 0, 1);
     due("the first", x.sent(0), 1);
     due("the second", x.sent(1), 3);
-    x.note(2, 1, 1);
+    x.note(1, 1, 1);
     due("the second", x.sent(1), 2);
     due("the third", x.sent(2), 3);
     due("sent", x.sent(3), NONE);
@@ -687,10 +693,10 @@ public final class PromisesTest {
     x.strike(0);
     due("as the text told it", x.sent(0), 1);
     due("of entered ones", x.sent(3), NONE);
-    x.note(5, 0, 0);
+    x.note(4, 0, 0);
     due("none", x.sent(0), 0);
     PostFrame y = ruled("take code");
-    y.note(1, 0, 1);
+    y.note(0, 0, 1);
     due("by the rule", y.sent(2), 1);
     due("by the rule", y.sent(0), 0);
   }
@@ -741,18 +747,16 @@ public final class PromisesTest {
     x.force(0);
     due("how many", x.ruled(0), 3);
     due("the first", x.ruled(1), NONE);
-    // behind the first TURN 1, 0, 1 lie in HOLE 0 and 0, 1, 0 in HOLE 1
-    due("where to look", x.look(1, 0), 0);
-    due("the most alike", x.look(1, 1), 2);
-    due("behind none", x.look(0, 0), 0);
-    due("behind none", x.look(0, 1), 3);
-    x.note(1, 0, 1);
+    // behind TURN 0 1, 0, 1 lie in HOLE 0 and 0, 1, 0 in HOLE 1
+    due("where to look", x.look(0, 0), 0);
+    due("the most alike", x.look(0, 1), 2);
+    x.note(0, 0, 1);
     due("how many", x.ruled(0), 2);
     due("the first", x.ruled(1), NONE);
-    // behind the second one 1, 1 lie in HOLE 0 and 1, 0 in HOLE 1
-    due("where to look", x.look(2, 0), 1);
-    due("the most alike", x.look(2, 1), 1);
-    x.note(2, 1, 0);
+    // behind TURN 1 1, 1 lie in HOLE 0 and 1, 0 in HOLE 1
+    due("where to look", x.look(1, 0), 1);
+    due("the most alike", x.look(1, 1), 1);
+    x.note(1, 1, 0);
     due("how many", x.ruled(0), 1);
     due("the first", x.ruled(1), 1);
     due("one alone", x.look(60, 0), 0);
@@ -760,7 +764,7 @@ public final class PromisesTest {
     x.turn();
     x.strike(0);
     due("as the text told it", x.ruled(1), 1);
-    x.note(2, 1, 5);
+    x.note(1, 1, 5);
     due("how many", x.ruled(0), 0);
     due("the first", x.ruled(1), -2);
     due("look", x.look(2, 0), -2);
@@ -771,8 +775,41 @@ public final class PromisesTest {
     for (int[] w : wrong) due("look " + w[0] + " " + w[1], x.look(w[0], w[1]), NONE);
     PostFrame y = small();
     Check.rule(y, "take code + 1");
-    y.note(1, 1, 1);
+    y.note(0, 1, 1);
     due("rule 0 alone", y.ruled(1), 0);
+  }
+
+  /** A NOTE of n, and a LOOK at n, see what lies there behind TURN n. */
+  private static void notedTurns() {
+    CHECK.part("promises 30, 31 and 33 to 35, the TURN of a NOTE");
+    for (int n : new int[] {0, 1, 30, 59, 60}) {
+      PostFrame y = Check.framed("frame 2 1 2;plan 0 0 0;letter 0");
+      due("rule", Check.rule(y, "take 1 if turn = " + n), 0);
+      due("rule", Check.rule(y, "take 1 if turn = " + (n + 1)), 1);
+      y.force(0);
+      // RULE 0 takes in TURN n, RULE 1 in the next one, none in TURN 0
+      due("look", y.look(n, 1), 2);
+      y.note(n, 0, 1);
+      due("taken in that TURN", y.ruled(0), 2);
+      due("not yet in the next", y.look(n, 1), 2);
+      due("said", y.said(0, 0), 2);
+      due("sent", y.sent(0), 1);
+      y.note(NONE, 0, 0);
+      y.note(n, 0, 0);
+      due("not taken in that TURN", y.ruled(0), 1);
+      due("not taken in that TURN", y.ruled(1), 1);
+      due("said", y.said(0, 0), 0);
+      due("sent", y.sent(0), 2);
+      y.force(1);
+      due("said", y.said(0, 0), 2);
+      due("sent", y.sent(0), 3);
+    }
+    PostFrame none = Check.framed("frame 2 1 1;plan 0 0 0");
+    none.note(0, 0, 0);
+    none.note(60, 0, 0);
+    due("none waits", none.ruled(0), 1);
+    none.note(60, 0, 1);
+    due("none waits", none.ruled(0), 0);
   }
 
   private static void seed() {
@@ -936,6 +973,7 @@ public final class PromisesTest {
     pence();
     note();
     ruledAndLook();
+    notedTurns();
     seed();
     posts();
     count();

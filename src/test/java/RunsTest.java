@@ -107,7 +107,7 @@ public final class RunsTest {
     for (int i = random.nextInt(4); i > 0; i--) {
       int n = random.nextInt(chance(80) ? 12 : 61);
       int h = random.nextInt(model.count(2));
-      call("note", n, h, chance(95) ? call("ahead", h, n, 0) : random.nextInt(3));
+      call("note", n, h, chance(95) ? call("ahead", h, n + 1, 0) : random.nextInt(3));
     }
   }
 
