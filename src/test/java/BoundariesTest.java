@@ -686,6 +686,9 @@ public final class BoundariesTest {
       due("the last", x.worst(0), codes == 2 ? 0 : codes - 1);
       due("how many", x.worst(1), length * (radix - 1));
     });
+    for (int code = 0; code < 4; code++) {
+      due("each can be it", framed("frame 4 1 2;plan 0 0 0;plan 1 " + code + " 1").worst(0), code);
+    }
     PostFrame x = framed("frame 4 4 2;plan 4 255 0;plan 4 0 1");
     due("the least of several", x.worst(0), 0);
     due("how many", x.worst(1), 12);
@@ -785,6 +788,9 @@ public final class BoundariesTest {
     changed("the last two", framed("frame 2 1 6;room 4 1;room 5 2;room 0 1;room 1 1;room 2 1;room 3 1;plan 0 0 4;letter 0;letter 0"), 0, 4, 5);
     changed("the least first one", framed("frame 2 1 3;room 0 1;room 1 1;room 2 2;plan 1 0 0;plan 1 1 1;letter 0;letter 0;letter 1;letter 1"),
         1, 0, 2);
+    changed("each for the other", framed("frame 2 1 2;room 0 1;room 1 2;plan 1 0 0;plan 1 1 1;letter 0;letter 0;letter 1"), 0, 0, 1);
+    changed("a third one stays", framed("frame 3 1 3;room 0 1;room 1 2;room 2 1;plan 1 0 0;plan 1 1 1;plan 1 2 2;letter 0;letter 0;letter 1;letter 2"),
+        0, 0, 1);
     PostFrame x = framed("frame 2 1 2;room 0 1;room 1 2;plan 0 0 0;letter 0;letter 0;letter 0;letter 0");
     changed("fewest, not none", x, 1, 0, 1);
     x.turn();
@@ -1136,6 +1142,12 @@ public final class BoundariesTest {
       due("they part no more", x.look(n, 0), 0);
       due("they part no more", x.look(n, 1), 2);
     }
+    PostFrame noted = framed("frame 2 1 2;plan 1 0 0;plan 1 1 1;letter 0;letter 1");
+    Check.rule(noted, "take code + 1");
+    for (int n : new int[] {1, 59, 60}) {
+      noted.note(n, 0, 1);
+      due("behind TURN 0, NOTES told of later ones", noted.look(0, 1), 1);
+    }
     PostFrame seven = framed("frame 2 1 2;plan 0 0 1;letter 0");
     for (int rule = 0; rule < 6; rule++) Check.rule(seven, "take 1 if turn = " + (rule < 3 ? 0 : 1));
     due("of seven four are alike", seven.look(0, 1), 4);
@@ -1284,6 +1296,18 @@ public final class BoundariesTest {
     due("an ACT behind that", x.undo(), 0);
     due("once more", x.back(2), 3);
     due("no FRAME then", noFrame().turn(), NONE);
+    // behind TURN 0 (1, 0) lie in the HOLES, behind TURN 1 (2, 0): of a NOTE the TURN, the HOLE, how many come back
+    int[][] notes = {{1, 0, 2, 0, 0, 2}, {0, 0, 1, 0, 1, 1}, {0, 0, 1, 0, 0, 0}};
+    for (int[] n : notes) {
+      PostFrame y = framed("frame 2 1 2;plan 1 0 0;plan 1 1 1;letter 0;letter 0;letter 1");
+      y.note(n[0], n[1], n[2]);
+      y.image(0);
+      y.note(NONE, 0, 0);
+      y.note(n[3], n[4], n[5]);
+      due("a NOTE that is not so", y.ruled(0), 0);
+      y.back(0);
+      due("the NOTE of the IMAGE", y.ruled(0), 1);
+    }
   }
 
   private static PostFrame noFrame() {

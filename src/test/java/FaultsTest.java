@@ -23,7 +23,7 @@ public final class FaultsTest {
   }
 
   private static void frames() {
-    CHECK.part("frame");
+    CHECK.part("promise 4, FAULTS of a FRAME");
     frame("", 0, 0);
     frame("   ", 3, 0);
     frame("frame", 5, 0);
@@ -61,7 +61,7 @@ public final class FaultsTest {
   }
 
   private static void clauses() {
-    CHECK.part("clauses of a frame");
+    CHECK.part("promise 4, FAULTS of CLAUSES");
     frame("room 0 1", 0, 4);
     frame(" plan 0 0 0", 1, 4);
     frame("letter 0", 0, 4);
@@ -107,7 +107,7 @@ public final class FaultsTest {
   }
 
   private static void rules() {
-    CHECK.part("rule");
+    CHECK.part("promise 5, FAULTS of a RULE");
     rule("", 0, 0);
     rule("take", 4, 0);
     rule("takes 1", 0, 0);
@@ -155,7 +155,7 @@ public final class FaultsTest {
   }
 
   private static void limits() {
-    CHECK.part("limits of a rule");
+    CHECK.part("promise 5, limits of a RULE");
     String nots = "take 1 if " + "not ".repeat(10);
     goodRule(nots + "1=1");
     rule(nots + "not 1=1", nots.length(), 2);

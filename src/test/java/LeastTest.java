@@ -53,7 +53,7 @@ public final class LeastTest {
   }
 
   private void run(Random random, int times) {
-    CHECK.part("radix " + radix + ", long " + length + ", holes " + holes);
+    CHECK.part("promise 23, radix " + radix + ", long " + length + ", holes " + holes);
     for (int i = 0; i < times; i++) {
       PostFrame x = Check.framed("frame " + radix + " " + length + " " + holes);
       for (int[] node : nodes) {

@@ -252,7 +252,7 @@ public final class PromisesTest {
   }
 
   private static void words() {
-    CHECK.part("words of rules");
+    CHECK.part("promise 10, WORDS of RULES");
     String[] words = {"place", "code", "first", "last", "lying", "room", "fit", "hole", "waiting", "bags", "turn"};
     int[][] values = {
       {0, 7, 1, 1, 0, 5, 3, 1, 4, 1, 2}, {2, 1, 0, 1, 1, 2, 1, 0, 4, 1, 2}, {3, 6, 1, 0, 0, 0, 0, -1, 4, 1, 2}
@@ -267,7 +267,7 @@ public final class PromisesTest {
   }
 
   private static void sums() {
-    CHECK.part("sums and tests of rules");
+    CHECK.part("promise 10, SUMS and TESTS of RULES");
     String[] so = {
       "2 + 3 * 4 = 14", "20 - 3 - 4 = 13", "100 / 7 / 2 = 7", "100 / 7 * 7 = 98", "17 % 5 * 2 = 4", "2 * 3 + 4 * 5 - 6 = 20",
       "0 - 7 / 2 = 0 - 3", "3 - 10 < 0", "7 / 0 = 0", "7 % 0 = 0", "0 - 7 % 3 = 0 - 1", "1 + 10 / 0 - 3 = 0 - 2",
