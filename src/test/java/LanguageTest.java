@@ -8,8 +8,6 @@ import java.nio.file.Path;
 import java.util.Arrays;
 import java.util.Set;
 import java.util.TreeSet;
-import java.util.regex.Matcher;
-import java.util.regex.Pattern;
 
 /** The face of the document, and those rules of LANGUAGE.md that can be seen from outside. */
 public final class LanguageTest {
@@ -67,46 +65,118 @@ public final class LanguageTest {
 
   private static void source() throws IOException {
     CHECK.part("source");
-    String text = Files.readString(Path.of("src/main/java/PostFrame.java"));
-    for (char c : text.toCharArray()) {
-      if (c > 126) no("a sign beyond 126", true);
-    }
-    String code = text.replaceAll("(?s)/\\*.*?\\*/", "").replaceAll("//[^\n]*", "").replaceAll("\"[^\"\n]*\"", "\"\"")
-        .replaceAll("'[^'\n]'", "' '");
-    String[] words = {
-      "throw", "throws", "try", "catch", "finally", "synchronized", "assert", "import", "package", "native", "volatile",
-      "transient", "protected", "Object", "Math\\s*\\.\\s*\\w+Exact", "equals", "hashCode", "random", "Thread", "record", "sealed"
-    };
-    for (String w : words) no(w, Pattern.compile("\\b" + w + "\\b").matcher(code).find());
-    no("lambda", code.contains("->"));
-    no("method reference", code.contains("::"));
-    no("static block", Pattern.compile("static\\s*\\{").matcher(code).find());
-    Matcher libs = Pattern.compile("\\b(System|Math|Integer|Long|Arrays|String|StringBuilder)\\s*\\.\\s*(\\w+)").matcher(code);
-    Set<String> known = Set.of("System.arraycopy", "Math.min", "Math.max", "Integer.bitCount");
-    while (libs.find()) no(libs.group(), !known.contains(libs.group(1) + "." + libs.group(2)));
-    methodLengths(code);
+    for (String breach : Rules.brokenBy(Files.readString(Path.of("src/main/java/PostFrame.java")))) no(breach, true);
   }
 
-  private static void methodLengths(String code) {
-    String[] lines = code.split("\n");
-    int from = -1;
-    String indent = "";
-    for (int i = 0; i < lines.length; i++) {
-      Matcher m = Pattern.compile("^( {4}| {8})(?! )[^=;]*\\) \\{$").matcher(lines[i]);
-      if (from < 0 && m.find()) {
-        from = i;
-        indent = m.group(1);
-      } else if (from >= 0 && lines[i].equals(indent + "}")) {
-        no("a method of " + (i - from) + " lines: " + lines[from].trim(), i - from > 60);
-        from = -1;
+  /** Rules tells what it should: a small class, once without and once with a line that breaks a rule. */
+  private static void teeth() throws IOException {
+    CHECK.part("Rules");
+    CHECK.due("breaches of a good one: " + Rules.brokenBy(small("", "")), Rules.brokenBy(small("", "")).size(), 0);
+    String[][] members = {
+      {"1", "int open;"}, {"1", "static int open() { return 1; }"}, {"1", "public static class Open { }"},
+      {"1", "private static final class Part { private int end(int n) { return n; } }"},
+      {"2", "private final class Part { }"}, {"2", "private interface Part { }"}, {"2", "private static <T> T same(T t) { return t; }"},
+      {"3", "private Object any;"}, {"3", "private int[][][] deep;"}, {"3", "private Integer many;"}, {"3", "private String[][] texts;"},
+      {"4", "private String text = \"\\u00e9\";"}, {"4", "@Override public String toString() { return \"\"; }"},
+      {"5", "private static int moving;"}, {"5", "private static final String TEXT = \"a\".trim();"}, {"5", "static { }"},
+      {"6", "public int hashCode() { return 1; }"}, {"8", "private static int again(int n) { return n > 0 ? again(n - 1) : 0; }"},
+      {"11", "private static int wide(int a, int b, int c, int d, int e, int f, int g, int h) { return a; }"},
+      {"11", "private static int tall() {" + "\n".repeat(60) + "return 1; }"}, {"11", many("private int f", "=0;", 20)},
+      {"11", many("private static final class C", "{ }", 12)},
+      {"11", many("private static int d", "(int n) { return n; }", 1) + deep(8)}
+    };
+    for (String[] m : members) told(m[0], small(m[1], ""));
+    String[][] lines = {
+      {"2", "Runnable r = () -> { };"}, {"2", "class Local { }"}, {"2", "Runnable r = this::run;"},
+      {"2", "Object o = new Object() { };"}, {"3", "Object o = null;"}, {"3", "double d = 1;"},
+      {"4", "Math.addExact(n, n);"}, {"4", "System.out.println();"}, {"4", "n = Math.abs(n);"}, {"4", "\"a\".concat(\"b\");"},
+      {"4", "System.nanoTime();"}, {"6", "throw new RuntimeException();"}, {"6", "try { n++; } finally { n--; }"},
+      {"6", "synchronized (this) { n++; }"}, {"6", "assert n > 0;"}, {"6", "boolean b = \"a\" == \"b\";"}, {"6", "Object o = (Object) null;"},
+      {"9", "while (n > 0) n--;"}, {"9", "do { n--; } while (n > 0);"}, {"9", "for (;;) n--;"}, {"9", "for (int i = 0; i < n;) n--;"},
+      {"10", "String s = \"a\" + n;"}, {"10", "String s = \"a\"; s += \"b\";"}, {"12", "int[] row = new int[n];"}, {"12", "int[] row = {n};"}
+    };
+    for (String[] l : lines) told(l[0], small("", l[1]));
+    told("4", "import java.util.List;" + small("", ""));
+    told("1", "package p;" + small("", ""));
+    told("1", small("", "").replace("final class PostFrame", "class PostFrame"));
+    told("4", small("// " + (char) 233, ""));
+  }
+
+  /** What one object holds, counted with every field and element, is a small part of the room of a run. */
+  private static void room() throws IllegalAccessException {
+    CHECK.part("rule 12, what is kept");
+    int[] fresh = held(new PostFrame());
+    no(fresh[0] + " objects of a new one", fresh[0] > 500);
+    no(fresh[1] + " fields and elements of a new one", fresh[1] > 8000);
+    PostFrame x = Check.framed("frame 2 1 1;letter 1");
+    x.turn();
+    int[] before = held(x);
+    for (int i = 0; i < 6; i++) Check.rule(x, "take 1" + "+1".repeat(56) + " if 1=1");
+    for (int i = 0; i < 30; i++) Check.frame(x, "frame 4 4 6;plan 0 0 0;letter 1");
+    for (int i = 0; i < 30; i++) x.turn();
+    for (int i = 0; i < 4; i++) x.image(i);
+    int[] behind = held(x);
+    CHECK.due("objects more behind six RULES", behind[0] - before[0], 6 * 5);
+    no(behind[1] + " fields and elements", behind[1] > before[1] + 6 * 200);
+  }
+
+  /** How many objects and arrays can be reached, and how many fields and elements these have. */
+  private static int[] held(Object from) throws IllegalAccessException {
+    Set<Object> seen = java.util.Collections.newSetFromMap(new java.util.IdentityHashMap<>());
+    java.util.ArrayDeque<Object> next = new java.util.ArrayDeque<>(java.util.List.of(from));
+    int[] sum = new int[2];
+    while (!next.isEmpty()) {
+      Object o = next.pop();
+      if (!seen.add(o)) continue;
+      sum[0]++;
+      if (o.getClass().isArray()) {
+        int length = java.lang.reflect.Array.getLength(o);
+        sum[1] += length;
+        for (int i = 0; i < length && o instanceof Object[] row; i++) {
+          if (row[i] != null) next.push(row[i]);
+        }
+        continue;
+      }
+      for (Field f : o.getClass().getDeclaredFields()) {
+        if (Modifier.isStatic(f.getModifiers())) continue;
+        sum[1]++;
+        f.setAccessible(true);
+        if (!f.getType().isPrimitive() && f.get(o) != null) next.push(f.get(o));
       }
     }
+    return sum;
   }
 
-  public static void main(String[] args) throws IOException {
+  private static String small(String member, String line) {
+    return "public final class PostFrame {\n public PostFrame() { }\n public int end(int n) {" + line + "\n return n; }\n"
+        + " private void run() { }\n" + member + "\n}";
+  }
+
+  private static String many(String ahead, String behind, int last) {
+    StringBuilder b = new StringBuilder();
+    for (int i = 0; i <= last; i++) b.append(ahead).append(i).append(behind);
+    return b.toString();
+  }
+
+  /** Methods that call the one before, so that the last is so many deep and one more. */
+  private static String deep(int last) {
+    StringBuilder b = new StringBuilder("private static int e0() { return d0(1); }");
+    for (int i = 1; i < last; i++) b.append("private static int e").append(i).append("() { return e").append(i - 1).append("(); }");
+    return b.toString();
+  }
+
+  private static void told(String rule, String text) throws IOException {
+    Set<String> breaches = Rules.brokenBy(text);
+    boolean named = breaches.stream().anyMatch(b -> b.startsWith("rule " + rule + ":"));
+    no("rule " + rule + " not told, but " + breaches + " of " + text, !named);
+  }
+
+  public static void main(String[] args) throws IOException, IllegalAccessException {
     face();
     inside();
     source();
+    teeth();
+    room();
     CHECK.end();
   }
 }
